@@ -1428,6 +1428,7 @@ public final class ThroughPack {
             }
         }
 
+        /** A run on a copy of the ice and of the first ship, so that nothing changes. */
         void sail(Text text, int seed, int n) {
             System.arraycopy(sea.ice, 0, field, 0, MOST_CELLS);
             runner.take(world.first);
@@ -1497,6 +1498,7 @@ public final class ThroughPack {
         /** All rows of so many winds that may come: behind row r wind v leads to the row that behind tells. */
         void foreseeAll(int many) {
             begin();
+            // Rows that have winds behind them: none, now alone, or now and its four.
             int inner = many == 2 ? 1 + WINDS : many;
             for (int row = 0; row < inner; row++) {
                 for (int v = 0; v < WINDS; v++) {
@@ -1554,7 +1556,9 @@ public final class ThroughPack {
         private final Helm helm;
         private final Judge judge;
         private final Outlook outlook;
-        /** The least coal from a row on, at twice the cell, and one more with banked fires. */
+        /** The least coal that a place behind an even or an odd number of watches has taken. */
+        private final int[][] spent;
+        /** The least coal from a row and a place on. */
         private final int[][] needs;
         /** The fewest watches from a row on to the shore. */
         private final int[][] afoot;
@@ -1562,6 +1566,7 @@ public final class ThroughPack {
         private final Ship[] behind;
         private final int[] pushes;
         private final int[] queue;
+        private int outFor;
 
         Ways(World world, Helm helm, Judge judge, Outlook outlook) {
             this.world = world;
@@ -1569,6 +1574,7 @@ public final class ThroughPack {
             this.judge = judge;
             this.outlook = outlook;
             sea = world.sea;
+            spent = new int[2][2 * MOST_CELLS];
             needs = new int[MOST_AHEAD + 1][2 * MOST_CELLS];
             afoot = new int[MOST_AHEAD + 1][MOST_CELLS];
             behind = new Ship[MOST_AHEAD + 1];
@@ -1579,30 +1585,72 @@ public final class ThroughPack {
             queue = new int[MOST_CELLS];
         }
 
-        /** The fewest watches to be out; the needs are then those of being out by that watch. */
+        /** The fewest watches to be out by the coal that she has. */
         int fewestWatches() {
-            for (int watches = 1; watches <= world.n; watches++) {
-                askNeeds(watches, NONE);
-                if (needNow() <= world.first.coal) {
-                    return watches;
+            return seekOut(world.first.coal, true);
+        }
+
+        /** Of the way out that was sought last. */
+        int coalLeft() {
+            return world.first.coal - outFor;
+        }
+
+        int leastCoal() {
+            seekOut(MOST_COAL, false);
+            return outFor == NEVER ? NONE : outFor;
+        }
+
+        /**
+         * Goes on by a watch at a time to all places that she can pay for, and answers how many it took; NONE if no way
+         * out was found. Coal only ever grows less and no law but go asks for it: who spent the least can do the most.
+         */
+        private int seekOut(int coal, boolean soonestAlone) {
+            outFor = NEVER;
+            clearSpent(0);
+            spent[0][place(world.first.cell, world.first.banked)] = 0;
+            for (int t = 0; t < world.n; t++) {
+                clearSpent(t + 1);
+                for (int cell = 0; cell < sea.size; cell++) {
+                    seekFrom(t, cell, false, coal);
+                    seekFrom(t, cell, true, coal);
+                }
+                if (soonestAlone && outFor < NEVER) {
+                    return t + 1;
                 }
             }
-            return NONE;
+            return outFor < NEVER ? world.n : NONE;
         }
 
-        int coalLeft() {
-            return world.first.coal - needNow();
+        private void clearSpent(int t) {
+            for (int i = 0; i < spent[t & 1].length; i++) {
+                spent[t & 1][i] = NEVER;
+            }
         }
 
-        private int needNow() {
-            return needs[0][place(world.first.cell, world.first.banked)];
+        private void seekFrom(int t, int cell, boolean banked, int coal) {
+            int before = spent[t & 1][place(cell, banked)];
+            for (int order = 0; order < ORDERS && before <= coal; order++) {
+                int price = helm.price(order, banked, outlook.tollOf(t, cell, order));
+                if (price == NONE || before + price > coal) {
+                    continue;
+                }
+                int to = helm.landing(order, cell, world.winds[t]);
+                if (Helm.isPush(order) && sea.exit[to]) {
+                    outFor = Math.min(outFor, before + price);
+                } else if (outlook.nips[t + 1][to] == 0) {
+                    int[] next = spent[t + 1 & 1];
+                    int place = place(to, Helm.banksBehind(order, banked));
+                    next[place] = Math.min(next[place], before + price);
+                }
+            }
         }
 
-        /** The k-th order of the way that the needs tell of. */
+        /** The k-th order of the best way out in so many watches, which are the fewest. */
         int orderOfBest(int k, int watches) {
             if (k < 0 || k >= watches) {
                 return NONE;
             }
+            askNeeds(watches, NONE);
             int cell = world.first.cell;
             boolean banked = world.first.banked;
             for (int t = 0; t < k; t++) {
@@ -1626,20 +1674,11 @@ public final class ThroughPack {
             return NONE;
         }
 
-        int leastCoal() {
-            askNeeds(world.n, NONE);
-            int need = needNow();
-            return need <= MOST_COAL ? need : NONE;
-        }
-
         private static int place(int cell, boolean banked) {
             return 2 * cell + (banked ? 1 : 0);
         }
 
-        /**
-         * What it takes to be out by the last watch, or, if home is a cell, in it. Coal only ever grows less and no
-         * law but go asks for it, so the sum of the prices alone decides which ways she can pay.
-         */
+        /** What it takes, from each place on, to be out by the last watch, or, if home is a cell, in it. */
         private void askNeeds(int last, int home) {
             for (int t = last; t >= 0; t--) {
                 for (int cell = 0; cell < sea.size; cell++) {
