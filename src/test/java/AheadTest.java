@@ -7,6 +7,7 @@ public final class AheadTest {
         soonestThroughIce();
         least();
         told();
+        twelve();
         nothingChanges();
         Check.end();
     }
@@ -139,6 +140,11 @@ public final class AheadTest {
         Check.due("raise for 0", x.least(), 99);
         x.by(Check.read(x, "cost 0-5;"));
         Check.due("for nothing", x.least(), 0);
+        x.ship(0, 0, 0);
+        Check.due("without coal, for nothing", x.soonest(0), 1);
+        Check.due("none left", x.soonest(1), 0);
+        x.watch(0, 6, -1);
+        Check.due("raise and push, all for nothing", x.soonest(0), 2);
         x.watch(0, 7, -1);
         x.watch(0, 1, -1);
         Check.due("out", x.of(0, 3), 1);
@@ -185,6 +191,33 @@ public final class AheadTest {
         Check.due("out", x.of(0, 3), 1);
         Check.due("told(-1) of one who is out", x.told(-1), 0);
         Check.due("told(0) of one who is out", x.told(0), -1);
+    }
+
+    private static void twelve() {
+        ThroughPack x = new ThroughPack(6, 6);
+        Check.ahead(x, 0, 0, 0, 0, 0, 0, 0, 0, 0, 0, 0, 0);
+        Check.orders(x, 1, 1, 1, 1, 1, 2, 2, 2, 2, 2, 3, 3);
+        Check.due("all twelve", x.told(-1), 12);
+        Check.due("behind the last", x.told(11), 33);
+        x.mark(33, true, true);
+        Check.due("leave behind all twelve", x.leave(), 12);
+        x.home(33);
+        Check.due("home behind all twelve", x.last(), 12);
+        x.many(12, 0);
+        x.mark(33, false, true);
+        x.mark(33, true, false);
+        x.ship(0, 0, 8);
+        Check.due("eight pushes by eight of coal", x.soonest(0), 8);
+        int[] orders = {1, 1, 1, 2, 2, 2, 2, 2};
+        for (int k = 0; k < 12; k++) {
+            Check.due("order " + k, x.soonest(10 + k), k < 8 ? orders[k] : -1);
+        }
+        x.mark(33, false, false);
+        x.mark(35, false, true);
+        x.ship(0, 0, 20);
+        Check.due("ten pushes", x.soonest(0), 10);
+        x.many(9, 0);
+        Check.due("nine watches are too few", x.soonest(0), -1);
     }
 
     private static void nothingChanges() {

@@ -48,6 +48,11 @@ public final class LooksTest {
         Check.due("about(9)", x.about(9), 30);
         Check.due("looks in cell 1", x.think(1, -1), 4);
         Check.due("looks in cell 8", x.think(8, -1), 3);
+        x.drift(0, 0, 1);
+        x.watch(0, -1, -1);
+        Check.due("all thirty go", x.think(4, -1), 4);
+        Check.due("three of them off", x.think(0, -1), 0);
+        Check.due("there are thirty still", x.look(0, 0), -1);
     }
 
     private static void thoughts() {

@@ -22,6 +22,9 @@ public final class OddsTest {
         Check.due("right and left take two: it must be down", x.surest(2, 1), 2);
         Check.due("by three, of 1000", x.surest(3, 0), 1000);
         Check.due("right, left, down takes three", x.surest(3, 1), 1);
+        x.ship(0, 0, 1);
+        Check.due("by the last coal", x.surest(1, 0), 10);
+        Check.due("known ahead it is the same", x.surest(1, 2), 0);
         x.ship(0, 0, 0);
         Check.due("without coal", x.surest(3, 0), 0);
         Check.due("bank is all she can", x.surest(3, 1), 6);
@@ -125,6 +128,11 @@ public final class OddsTest {
         for (int cell : new int[] {12, -2, Integer.MIN_VALUE, Integer.MAX_VALUE}) {
             Check.due("leads of others", x.leads(cell), -1);
         }
+        x.ice(4, 30);
+        Check.due("30 is open", x.leads(4), 1);
+        x.ice(4, 31);
+        Check.due("31 is not", x.leads(4), -1);
+        x.ice(4, 0);
         // A wall with a gap below: . # . . / . # . . / . . . .
         x.ice(1, 31);
         x.ice(5, 99);

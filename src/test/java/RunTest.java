@@ -131,6 +131,14 @@ public final class RunTest {
         for (int how = 0; how < 3; how++) {
             Check.due("runs that end so", x.runs(0, 100, 40, 2, how), ends[how]);
         }
+        x.chances(0, 9, 1, 0, 0);
+        for (int seed = 2; seed < 40; seed += 5) {
+            int out = 0;
+            for (int i = 0; i < 3; i++) {
+                out += x.run(0, seed + i, 2, 0) == 1 ? 1 : 0;
+            }
+            Check.due("three runs from " + seed, x.runs(0, seed, 3, 2, 1), out);
+        }
         Check.due("one run", x.runs(0, 9999, 1, 1, 0), 1);
         Check.due("up to 9999", x.runs(0, 9960, 40, 1, 0), 40);
         int[][] others = {{0, 9961, 40, 1, 0}, {0, 0, 0, 1, 0}, {0, 0, 41, 1, 0}, {0, -1, 1, 1, 0}, {0, 10000, 1, 1, 0},

@@ -138,8 +138,9 @@ public final class SeaTest {
         Check.due("banked", x.of(1, 2), 1);
         x.ship(1, 8, 9);
         Check.due("a ship that is put has fires that burn", x.of(1, 2), 0);
-        x.ship(1, -1, 0);
+        Check.due("ship 1 away", x.ship(1, -1, 0), true);
         Check.due("gone", x.of(1, 0), -1);
+        Check.due("away again", x.ship(1, -1, 99), true);
         x.mark(1, false, true);
         x.ship(0, 0, 5);
         x.watch(0, 1, -1);

@@ -2,6 +2,7 @@
 public final class TextTest {
     public static void main(String[] args) {
         tape();
+        cuts();
         four();
         faults();
         faultsOfOneToken();
@@ -45,6 +46,23 @@ public final class TextTest {
         Check.due("no text more", x.about(4), 1);
     }
 
+    /** What was cut off the tape must not be read, whatever it was. */
+    private static void cut(String text, int length) {
+        ThroughPack x = new ThroughPack(3, 3);
+        Check.feed(x, text);
+        x.end(length);
+        Check.due("text cut: " + text, x.text(), -1);
+        Check.due("its place is the length", x.fault(1), length);
+    }
+
+    private static void cuts() {
+        cut("may x=12;", 7);
+        cut("may x<=2;", 6);
+        cut("may x=yx;", 7);
+        cut("may x=1;", 7);
+        cut("may 1=1;may 1=1;", 14);
+    }
+
     private static void four() {
         ThroughPack x = new ThroughPack(3, 3);
         for (int i = 0; i < 4; i++) {
@@ -80,6 +98,18 @@ public final class TextTest {
         fault("mayx=1;", 1, 0);
         fault("may thicker=1;", 1, 4);
         fault("may X=1;", 1, 4);
+        fault("may xz=1;", 1, 4);
+        fault("may xa=1;", 1, 4);
+        fault("may xA=1;", 1, 4);
+        fault("may xZ=1;", 1, 4);
+        fault("may x[=1;", 1, 5);
+        fault("may x`=1;", 1, 5);
+        fault("may x@=1;", 1, 5);
+        fault("may x{=1;", 1, 5);
+        fault("may 0:=1;", 1, 5);
+        fault(";".repeat(300), 1, 0);
+        good("cost " + "-1".repeat(147) + ";");
+        fault("cost " + "1-".repeat(147) + ";", 1, 299);
         fault("may may=1;", 1, 4);
         fault("may 1==1;", 1, 6);
         fault("may 1=<1;", 1, 6);
@@ -190,7 +220,10 @@ public final class TextTest {
         asks("1=1 and 1=2 or 1=2", false);
         asks("not 1=2 and 1=2", false);
         asks("not 1=1 or 1=1", true);
+        asks("not 1=2", true);
+        asks("not 1=1", false);
         asks("not not 1=1", true);
+        asks("not not not 1=1", false);
         asks("1=2 or 1=2 or 1=1", true);
         asks("1=1 and 1=1 and 1=2", false);
         asks("1=1 or 1=1 and 1=2 or 1=2", true);

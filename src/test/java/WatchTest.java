@@ -206,6 +206,9 @@ public final class WatchTest {
         Check.due("ship 0 holds", x.watch(0, 5, 1), 1);
         Check.due("no lead", x.of(1, 0), 4);
         x.back();
+        Check.due("ship 0 moors", x.watch(0, 4, 1), 1);
+        Check.due("no lead", x.of(1, 0), 4);
+        x.back();
         x.ice(6, 31);
         Check.due("ship 0 can't push", x.watch(0, 1, 1), 0);
         x.back();
