@@ -1,18 +1,55 @@
+import java.lang.reflect.Method;
+
 /** Counts answers that are not as due; shared by the tests. */
 final class Check {
     private static int wrong = 0;
+    private static String sentence = "";
 
     private Check() { }
+
+    /** The sentence of the document that is tested from here on; told with each wrong answer. */
+    static void under(String words) {
+        sentence = words;
+    }
 
     static void due(String call, long got, long want) {
         if (got != want) {
             wrong++;
             System.out.println(call + " answered " + got + ", due is " + want);
+            if (!sentence.isEmpty()) {
+                System.out.println("    under: " + sentence);
+            }
         }
     }
 
     static void due(String call, boolean got, boolean want) {
         due(call, got ? 1 : 0, want ? 1 : 0);
+    }
+
+    /** A call by its name; a boolean argument is a number that isn't 0. */
+    static Object on(Object it, String name, int... numbers) {
+        for (Method method : it.getClass().getDeclaredMethods()) {
+            Class<?>[] types = method.getParameterTypes();
+            if (!method.getName().equals(name) || types.length != numbers.length) {
+                continue;
+            }
+            Object[] given = new Object[types.length];
+            for (int i = 0; i < types.length; i++) {
+                given[i] = types[i] == boolean.class ? (Object) (numbers[i] != 0) : (Object) numbers[i];
+            }
+            try {
+                return method.invoke(it, given);
+            } catch (ReflectiveOperationException e) {
+                throw new IllegalStateException(name, e);
+            }
+        }
+        throw new IllegalStateException(name);
+    }
+
+    /** The same as a number: true is 1. */
+    static long call(ThroughPack x, String name, int... numbers) {
+        Object got = on(x, name, numbers);
+        return got instanceof Boolean ? ((Boolean) got ? 1 : 0) : (Integer) got;
     }
 
     /** Puts a text of up to 300 signs on the tape, in place of what is there. */

@@ -1,4 +1,3 @@
-import java.lang.reflect.Method;
 import java.util.ArrayList;
 import java.util.List;
 import java.util.Random;
@@ -28,7 +27,7 @@ public final class RandomTest {
         log.add("new " + w + " " + h);
     }
 
-    public static void main(String[] args) throws Exception {
+    public static void main(String[] args) {
         int bad = 0;
         int from = args.length > 0 ? Integer.parseInt(args[0]) : 0;
         int many = args.length > 1 ? Integer.parseInt(args[1]) : 250;
@@ -44,7 +43,7 @@ public final class RandomTest {
         }
     }
 
-    private boolean holds() throws Exception {
+    private boolean holds() {
         setUp();
         for (int i = 0; i < 110 && !wrong; i++) {
             int dice = random.nextInt(20);
@@ -61,7 +60,7 @@ public final class RandomTest {
         return !wrong;
     }
 
-    private void setUp() throws Exception {
+    private void setUp() {
         if (random.nextInt(5) > 0) {
             feedText(false);
             if (random.nextInt(4) > 0) {
@@ -105,7 +104,7 @@ public final class RandomTest {
         return low + random.nextInt(high - low + 1);
     }
 
-    private void ask(String name) throws Exception {
+    private void ask(String name) {
         int c = cells - 1;
         switch (name) {
             case "ice" -> call(name, pick(0, c), pick(0, 99));
@@ -140,7 +139,7 @@ public final class RandomTest {
         }
     }
 
-    private void feedText(boolean spoilt) throws Exception {
+    private void feedText(boolean spoilt) {
         StringBuilder text = new StringBuilder();
         int many = random.nextInt(8);
         boolean cost = false;
@@ -183,7 +182,7 @@ public final class RandomTest {
         }
     }
 
-    private void feedBytes(String text) throws Exception {
+    private void feedBytes(String text) {
         String tape = text.length() > 300 ? text.substring(0, 300) : text;
         call("end", 0);
         for (int at = 0; at < tape.length(); at += 20) {
@@ -240,27 +239,12 @@ public final class RandomTest {
         return NAMES[random.nextInt(NAMES.length)];
     }
 
-    private static Object on(Object it, String name, int[] numbers) throws Exception {
-        for (Method method : it.getClass().getDeclaredMethods()) {
-            if (!method.getName().equals(name)) {
-                continue;
-            }
-            Class<?>[] types = method.getParameterTypes();
-            Object[] given = new Object[types.length];
-            for (int i = 0; i < types.length; i++) {
-                given[i] = types[i] == boolean.class ? (Object) (numbers[i] != 0) : (Object) numbers[i];
-            }
-            return method.invoke(it, given);
-        }
-        throw new IllegalStateException(name);
-    }
-
-    private void call(String name, int... numbers) throws Exception {
+    private void call(String name, int... numbers) {
         if (wrong) {
             return;
         }
-        Object want = on(plain, name, numbers);
-        Object got = on(real, name, numbers);
+        Object want = Check.on(plain, name, numbers);
+        Object got = Check.on(real, name, numbers);
         log.add(name + java.util.Arrays.toString(numbers) + " " + got);
         if (!want.equals(got)) {
             wrong = true;
