@@ -359,6 +359,12 @@ final class AheadEdges {
         Check.due("ahead of it", x.told(0), 1);
         Check.due("it", x.told(1), -1);
         Check.due("and behind it", x.told(2), -1);
+        x.drift(1, 1, 0);
+        x.ahead(1, 1);
+        x.order(1, 4);
+        Check.due("a DRIFT into the EXIT ends nothing", x.told(-1), 3);
+        Check.due("she lies in it", x.told(1), 2);
+        Check.due("and pushes on", x.told(2), 1);
         x.back();
         Check.rule(x, "nips x=2;");
         Check.due("NIPPED behind the second", x.told(-1), 1);

@@ -328,8 +328,14 @@ final class HomeEdges {
         x.by(Check.read(x, "nips 1=1;"));
         Check.due("all alike: the lowest", x.winter(0), 0);
         Check.due("twelve times", x.winter(1), 12);
+        for (int c = 0; c < 9; c++) {
+            ThroughPack y = sea(4, 0);
+            y.many(12, 0);
+            Check.rule(y, "nips x+y*3#" + c + ";");
+            Check.due("that CELL alone", y.winter(0), c);
+            Check.due("never", y.winter(1), 0);
+        }
         x.by(Check.read(x, "nips x#0 or y#2;"));
-        Check.due("CELL 6 alone", x.winter(0), 6);
         x.drift(1, -1, 0);
         Check.ahead(x, 0, 1, 1, 1);
         Check.due("drifted there in three, and not beyond", x.winter(18), 2);

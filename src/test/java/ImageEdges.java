@@ -1,5 +1,8 @@
 /** Edges of promises 37 and 38: an image, and back to it. */
 final class ImageEdges {
+    /** The last of the changes. */
+    private static final int LAST = 36;
+
     private ImageEdges() { }
 
     static void all() {
@@ -18,6 +21,7 @@ final class ImageEdges {
         x.mark(6, true, true);
         x.edge(12);
         x.drift(1, 1, 0);
+        x.drift(2, 0, 1);
         x.chances(0, 5, 5, 0, 0);
         x.ship(0, 3, 33);
         x.ship(1, 4, 44);
@@ -58,8 +62,51 @@ final class ImageEdges {
             case 18 -> x.look(0, 5);
             case 19 -> x.watch(0, 1, 6);
             case 20 -> x.watch(0, 6, -1);
-            default -> x.watch(0, -1, 7);
+            case 21 -> x.watch(0, -1, 7);
+            case 22 -> x.ahead(0, 1);
+            case 23 -> x.order(0, 2);
+            case 24 -> x.prior(5, 0);
+            case 25 -> x.mark(8, false, true);
+            case 26 -> x.mark(8, true, true);
+            case 27 -> x.ice(8, 99);
+            case 28 -> x.drift(0, 1, 1);
+            case 29 -> x.costs(9, 3, 4);
+            case 30 -> x.costs(2, 9, 4);
+            case 31 -> x.costs(2, 3, 9);
+            case 32 -> x.drift(2, -1, 0);
+            case 33 -> x.drift(3, 0, -1);
+            case 34 -> x.chances(1, 0, 0, 10, 0);
+            case 35 -> x.chances(2, 0, 0, 0, 10);
+            default -> x.chances(3, 10, 0, 0, 0);
         }
+    }
+
+    /** What each wind does, told by runs and watches: it can be asked but once. */
+    private static String deep(ThroughPack x) {
+        StringBuilder all = new StringBuilder(Whole.of(x));
+        x.by(-1);
+        for (int c = 0; c < 9; c++) {
+            x.ship(0, c, 9);
+            all.append(x.surest(1, 0)).append(' ').append(x.surest(1, 1)).append(' ').append(x.walk(0)).append(' ');
+        }
+        x.ship(0, 4, 99);
+        for (int order = 4; order < 8; order++) {
+            x.watch(0, order, -1);
+            all.append(x.of(0, 1)).append(' ');
+        }
+        x.costs(0, 0, 0);
+        for (int v = 3; v >= 0; v--) {
+            x.ship(0, 4, 9);
+            x.wind(v);
+            for (int seed = 0; seed < 10; seed++) {
+                all.append(x.run(0, seed, 1, 2)).append(' ').append(x.run(0, seed, 2, 2)).append(' ');
+            }
+            x.watch(v, 4, 4);
+            for (int c = 0; c < 9; c++) {
+                all.append(x.iceAt(c)).append(' ');
+            }
+        }
+        return all.toString();
     }
 
     private static void image() {
@@ -67,18 +114,18 @@ final class ImageEdges {
         Doc.says(Doc.TERMS, "BACK: all is so again.");
         Doc.says(37, "THE IMAGE is as all is now: THE WATCH.");
         Doc.says(38, "BACK to THE IMAGE (it stays): THE WATCH.");
-        String then = Whole.of(changed());
-        for (int i = 0; i <= 21; i++) {
+        String then = deep(changed());
+        for (int i = 0; i <= LAST; i++) {
             ThroughPack x = changed();
             Check.due("image", x.image(), 2);
             change(x, i);
-            Check.due("change " + i + " is seen", Whole.of(x).equals(then), false);
+            Check.due("change " + i + " is seen", deep(x).equals(then), false);
             x = changed();
             x.image();
             change(x, i);
-            change(x, (i + 5) % 22);
+            change(x, (i + 5) % (LAST + 1));
             Check.due("back", x.back(), 2);
-            Check.due("all is so again behind " + i, Whole.of(x).equals(then), true);
+            Check.due("all is so again behind " + i, deep(x).equals(then), true);
         }
         ThroughPack x = new ThroughPack(3, 3);
         Check.due("the image of a new one", x.image(), 0);

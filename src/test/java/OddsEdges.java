@@ -8,6 +8,7 @@ final class OddsEdges {
     static void all() {
         surest();
         surestTenths();
+        surestOrders();
         worth();
         surestEnds();
         leads();
@@ -93,6 +94,47 @@ final class OddsEdges {
         x.costs(2, 2, 1);
         // Bank, raise, push: the second WIND must be 0, 4 * 3 and 6 * 4 of 100, and no knowledge helps.
         sure(x, 3, 360, 6, 0);
+    }
+
+    /** Every order that may be the best one to begin with, and every row of two winds. */
+    private static void surestOrders() {
+        int[] exits = {1, 5, 7, 3};
+        for (int order = 0; order < 4; order++) {
+            ThroughPack x = sea(4, 20);
+            x.mark(exits[order], false, true);
+            sure(x, 1, 10, order, 0);
+            x.ice(exits[order], 31);
+            sure(x, 1, 0, order == 0 ? 1 : 0, 0);
+        }
+        ThroughPack banked = sea(0, 20);
+        banked.mark(1, false, true);
+        banked.watch(0, 6, -1);
+        sure(banked, 1, 0, 6, 0);
+        sure(banked, 2, 100, 7, 0);
+        sure(banked, 3, 1000, 6, 0);
+        for (int v = 0; v < 4; v++) {
+            for (int u = 0; u < 4; u++) {
+                ThroughPack x = sea(0, 20);
+                x.mark(1, false, true);
+                int from = (v + 1) % 4;
+                x.wind(from);
+                certain(x, from, v);
+                certain(x, v, u);
+                Check.rule(x, "may watch=2 and wind=" + u + ";");
+                sure(x, 3, 1000, 4, 0);
+                x.by(Check.read(x, "may watch=1 and wind=" + v + ";"));
+                sure(x, 3, 1000, 4, 0);
+                sure(x, 2, 100, 4, 0);
+                x.by(Check.read(x, "may watch=2;nips watch=1 and wind=" + u + ";"));
+                sure(x, 3, 0, 4, 0);
+                x.by(Check.read(x, "may watch=2;nips watch=1 and wind#" + u + ";"));
+                sure(x, 3, 1000, 4, 0);
+            }
+        }
+    }
+
+    private static void certain(ThroughPack x, int from, int to) {
+        x.chances(from, to == 0 ? 10 : 0, to == 1 ? 10 : 0, to == 2 ? 10 : 0, to == 3 ? 10 : 0);
     }
 
     private static void worth() {

@@ -54,6 +54,9 @@ final class RunEdges {
         Check.due("then banked, being unable to moor", x.run(2, 0, 40, 3), 0);
         x.ship(0, 0, 7);
         Check.due("held thrice, moored once", x.run(2, 0, 4, 3), 0);
+        x.ship(0, 4, 9);
+        Check.read(x, "may 1=1;nips 1=1;walk 1=1;cost 1;ice 1;go 1 when 1=1;");
+        run(x, 3, 1, 0, 1, 5, 8);
     }
 
     private static void draws() {

@@ -494,6 +494,10 @@ final class TextEdges {
         fault("go 1000 when 1=1;", 2, 3);
         fault("go 4294967296 when 1=1;", 2, 3);
         fault("go 8", 2, 3);
+        ThroughPack x = new ThroughPack(3, 3);
+        Check.due("a NUMBER that is too great", Check.read(x, "may 1000=1;"), -1);
+        Check.due("leaves no trace for a NAME in its place", Check.read(x, "may x=1;"), 0);
+        Check.due("nor for a NUMBER", Check.read(x, "may 1=1;"), 1);
     }
 
     private static void faultThree() {
